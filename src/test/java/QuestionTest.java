@@ -147,6 +147,16 @@ final class QuestionTest {
         Due.is("winding(4, 3) beyond", x.winding(4, 3), 0);
         Due.is("winding(1, 3) between the sides", x.winding(1, 3), -1);
         Due.is("winding(0, 3) before", x.winding(0, 3), 0);
+        x.drop();
+        x.move(1, 0);
+        x.line(2, 2);
+        x.line(-5, 2);
+        Due.is("winding(0, 0) by a rising side half a step beyond", x.winding(0, 0), 1);
+        x.drop();
+        x.move(2, 2);
+        x.line(1, 0);
+        x.line(-5, 2);
+        Due.is("winding(0, 0) by a falling side half a step beyond", x.winding(0, 0), -1);
     }
 
     private static void windingOfSeveralTurns() {
