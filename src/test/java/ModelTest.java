@@ -1,22 +1,26 @@
 /** All promises: long runs of mixed calls, the same in each run of the test, answered by the program and the model. */
 final class ModelTest {
     private static final int RUNS = 600;
-    private static final int MIXED_CALLS = 440;
+    /** What an object is made for; the last of them are the questions about everything small. */
+    private static final int CALLS = 512;
+    private static final int LAST_QUESTIONS = 38;
 
     private static long seed = 20261115L;
     private static PagePainter program;
     private static Model model;
     private static int run;
+    private static int calls;
 
     public static void main(String[] args) {
         for (run = 0; run < RUNS && !Due.anyWrong(); run++) {
             program = new PagePainter();
             model = new Model();
-            for (int n = 0; n < MIXED_CALLS; n++) {
+            calls = 0;
+            while (calls < CALLS - LAST_QUESTIONS) {
                 mixedCall();
             }
-            // With these the run stays within the 512 calls that an object is made for.
             askAboutEverythingSmall();
+            Due.is("run " + run + ": calls", calls, CALLS);
         }
         Due.end();
     }
@@ -146,6 +150,7 @@ final class ModelTest {
     }
 
     private static void due(String call, long got, long want) {
+        calls++;
         Due.is("run " + run + ": " + call, got, want);
     }
 }

@@ -26,28 +26,14 @@ final class PaintTest {
         Due.end();
     }
 
-    private static void addSquare(PagePainter x, int from, int to) {
-        x.move(from, from);
-        x.line(to, from);
-        x.line(to, to);
-        x.line(from, to);
-        x.close();
-    }
-
-    private static PagePainter withSquare(int from, int to) {
-        PagePainter x = new PagePainter();
-        addSquare(x, from, to);
-        return x;
-    }
-
     private static void fillByRules() {
-        PagePainter x = withSquare(0, 12);
-        addSquare(x, 4, 8);
+        PagePainter x = Shapes.withSquare(0, 12);
+        Shapes.square(x, 4, 8);
         Due.is("fill(1) leaves the doubled part", x.fill(1), 32);
         Due.is("pixel(2, 2) in the hole", x.pixel(2, 2), 0);
         Due.is("fill(0) fills it", x.fill(0), 4);
         Due.is("count(1)", x.count(1), 36);
-        PagePainter whole = withSquare(-5, 50);
+        PagePainter whole = Shapes.withSquare(-5, 50);
         Due.is("fill(0) of the whole page", whole.fill(0), 256);
         PagePainter empty = new PagePainter();
         Due.is("fill(0) of no path", empty.fill(0), 0);
@@ -70,12 +56,12 @@ final class PaintTest {
     }
 
     private static void fillModesAndCounts() {
-        PagePainter x = withSquare(0, 4);
+        PagePainter x = Shapes.withSquare(0, 4);
         x.paint(3, 0);
         Due.is("fill by mode 0", x.fill(0), 4);
         x.paint(3, 2);
         x.drop();
-        addSquare(x, 0, 8);
+        Shapes.square(x, 0, 8);
         x.paint(6, 2);
         Due.is("fill by mode 2", x.fill(0), 12);
         Due.is("count(3)", x.count(3), 4);
@@ -94,17 +80,17 @@ final class PaintTest {
     }
 
     private static void fillOnlyInTheClip() {
-        PagePainter x = withSquare(0, 8);
+        PagePainter x = Shapes.withSquare(0, 8);
         x.clip(0);
         x.drop();
-        addSquare(x, 4, 16);
+        Shapes.square(x, 4, 16);
         Due.is("fill(0) in the clip", x.fill(0), 4);
         Due.is("pixel(3, 3)", x.pixel(3, 3), 1);
         Due.is("pixel(4, 4)", x.pixel(4, 4), 0);
     }
 
     private static void fillRefused() {
-        PagePainter x = withSquare(0, 8);
+        PagePainter x = Shapes.withSquare(0, 8);
         int[] bad = {-1, 2, MIN, MAX};
         for (int rule : bad) {
             Due.is("fill(" + rule + ")", x.fill(rule), -1);
@@ -227,7 +213,7 @@ final class PaintTest {
     }
 
     private static void strokeModesAndClip() {
-        PagePainter x = withSquare(0, 8);
+        PagePainter x = Shapes.withSquare(0, 8);
         x.clip(0);
         x.drop();
         x.move(1, 1);
@@ -244,7 +230,7 @@ final class PaintTest {
     }
 
     private static void strokeRefused() {
-        PagePainter x = withSquare(0, 8);
+        PagePainter x = Shapes.withSquare(0, 8);
         int[] bad = {-1, 33, MIN, MAX};
         for (int width : bad) {
             Due.is("stroke(" + width + ")", x.stroke(width), -1);
@@ -254,8 +240,8 @@ final class PaintTest {
     }
 
     private static void clip() {
-        PagePainter x = withSquare(0, 12);
-        addSquare(x, 4, 8);
+        PagePainter x = Shapes.withSquare(0, 12);
+        Shapes.square(x, 4, 8);
         x.save();
         Due.is("clip(0)", x.clip(0), 36);
         Due.is("clip(1)", x.clip(1), 32);
@@ -263,7 +249,7 @@ final class PaintTest {
         Due.is("clipped(2, 2)", x.clipped(2, 2), 0);
         Due.is("clipped(1, 1)", x.clipped(1, 1), 1);
         x.drop();
-        addSquare(x, 8, 30);
+        Shapes.square(x, 8, 30);
         Due.is("clip(0) meets the clip", x.clip(0), 4);
         Due.is("clipped(4, 4)", x.clipped(4, 4), 1);
         Due.is("clipped(6, 6)", x.clipped(6, 6), 0);
@@ -276,7 +262,7 @@ final class PaintTest {
     }
 
     private static void clipRefused() {
-        PagePainter x = withSquare(0, 8);
+        PagePainter x = Shapes.withSquare(0, 8);
         int[] bad = {-1, 2, MIN, MAX};
         for (int rule : bad) {
             Due.is("clip(" + rule + ")", x.clip(rule), -1);
@@ -285,10 +271,10 @@ final class PaintTest {
     }
 
     private static void undo() {
-        PagePainter x = withSquare(0, 4);
+        PagePainter x = Shapes.withSquare(0, 4);
         x.fill(0);
         x.drop();
-        addSquare(x, 0, 8);
+        Shapes.square(x, 0, 8);
         x.paint(2, 0);
         x.fill(0);
         Due.is("undo() of the second fill", x.undo(), 16);
@@ -307,7 +293,7 @@ final class PaintTest {
     }
 
     private static void undoAfterRefusedCalls() {
-        PagePainter x = withSquare(0, 4);
+        PagePainter x = Shapes.withSquare(0, 4);
         x.fill(0);
         x.fill(2);
         x.stroke(33);
@@ -318,7 +304,7 @@ final class PaintTest {
     }
 
     private static void undoAfterCallsThatChangeNoPixel() {
-        PagePainter x = withSquare(0, 4);
+        PagePainter x = Shapes.withSquare(0, 4);
         x.fill(0);
         x.fill(0);
         Due.is("undo() of a fill that changed nothing", x.undo(), 0);
@@ -337,7 +323,7 @@ final class PaintTest {
     }
 
     private static void undoOnlyTurnsThePage() {
-        PagePainter x = withSquare(0, 4);
+        PagePainter x = Shapes.withSquare(0, 4);
         x.fill(0);
         x.paint(4, 1);
         x.shift(1, 1);

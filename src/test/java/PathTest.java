@@ -19,15 +19,6 @@ final class PathTest {
         Due.end();
     }
 
-    private static PagePainter full() {
-        PagePainter x = new PagePainter();
-        x.move(0, 0);
-        for (int n = 1; n < 16; n++) {
-            x.line(n, 2 * n);
-        }
-        return x;
-    }
-
     /** A painter whose matrix takes (x, y) to (21 x, 21 y), so that 99 lies beyond 2000. */
     private static PagePainter wide() {
         PagePainter x = new PagePainter();
@@ -153,7 +144,7 @@ final class PathTest {
     }
 
     private static void drop() {
-        PagePainter x = full();
+        PagePainter x = Shapes.withFullPath();
         Due.is("drop() of 16 points", x.drop(), 16);
         Due.is("drop() again", x.drop(), 0);
         Due.is("pathPoint(0) after drop", x.pathPoint(0), 0);
@@ -201,7 +192,7 @@ final class PathTest {
     }
 
     private static void pathPoint() {
-        PagePainter x = full();
+        PagePainter x = Shapes.withFullPath();
         for (int k = 0; k < 16; k++) {
             Due.is("pathPoint(" + k + ")", x.pathPoint(k), Due.packed(k, 2 * k));
         }

@@ -17,17 +17,9 @@ final class QuestionTest {
         Due.end();
     }
 
-    private static void addBox(PagePainter x, int left, int top, int right, int bottom) {
-        x.move(left, top);
-        x.line(right, top);
-        x.line(right, bottom);
-        x.line(left, bottom);
-        x.close();
-    }
-
     private static void pixel() {
         PagePainter x = new PagePainter();
-        addBox(x, 4, 0, 6, 32);
+        Shapes.box(x, 4, 0, 6, 32);
         x.paint(7, 0);
         x.fill(0);
         Due.is("pixel(2, 0)", x.pixel(2, 0), 7);
@@ -42,7 +34,7 @@ final class QuestionTest {
 
     private static void count() {
         PagePainter x = new PagePainter();
-        addBox(x, 0, 0, 32, 2);
+        Shapes.box(x, 0, 0, 32, 2);
         x.paint(7, 0);
         x.fill(0);
         Due.is("count(7)", x.count(7), 16);
@@ -56,15 +48,15 @@ final class QuestionTest {
 
     private static void row() {
         PagePainter x = new PagePainter();
-        addBox(x, 0, 0, 32, 2);
+        Shapes.box(x, 0, 0, 32, 2);
         x.paint(7, 0);
         x.fill(0);
         x.drop();
-        addBox(x, 30, 30, 32, 32);
+        Shapes.box(x, 30, 30, 32, 32);
         x.paint(5, 0);
         x.fill(0);
         x.drop();
-        addBox(x, 0, 30, 2, 32);
+        Shapes.box(x, 0, 30, 2, 32);
         x.paint(2, 0);
         x.fill(0);
         Due.is("row(0) full of 7", x.row(0), 281474976710655L);
@@ -77,8 +69,8 @@ final class QuestionTest {
 
     private static void inside() {
         PagePainter x = new PagePainter();
-        addBox(x, 0, 0, 12, 12);
-        addBox(x, 4, 4, 8, 8);
+        Shapes.box(x, 0, 0, 12, 12);
+        Shapes.box(x, 4, 4, 8, 8);
         Due.is("inside(0, 0, 0)", x.inside(0, 0, 0), 1);
         Due.is("inside(0, 0, 1)", x.inside(0, 0, 1), 1);
         Due.is("inside(2, 3, 0)", x.inside(2, 3, 0), 1);
@@ -97,7 +89,7 @@ final class QuestionTest {
 
     private static void winding() {
         PagePainter x = new PagePainter();
-        addBox(x, 0, 0, 8, 8);
+        Shapes.box(x, 0, 0, 8, 8);
         Due.is("winding(1, 2) by a box to the right", x.winding(1, 2), 1);
         x.move(16, 0);
         x.line(16, 8);
@@ -118,7 +110,7 @@ final class QuestionTest {
     /** The sides of this box run through centres. */
     private static void windingAtTheEdges() {
         PagePainter x = new PagePainter();
-        addBox(x, 3, 3, 7, 7);
+        Shapes.box(x, 3, 3, 7, 7);
         // A side at u itself is not beyond u, and a segment counts at its lesser y but not at its greater one.
         Due.is("winding(1, 1) at the least corner", x.winding(1, 1), 1);
         Due.is("winding(3, 1) on the greater x", x.winding(3, 1), 0);
@@ -162,7 +154,7 @@ final class QuestionTest {
     private static void windingOfSeveralTurns() {
         PagePainter x = new PagePainter();
         for (int n = 1; n <= 3; n++) {
-            addBox(x, 0, 0, 8 * n, 8 * n);
+            Shapes.box(x, 0, 0, 8 * n, 8 * n);
         }
         Due.is("winding(0, 0) of three turns", x.winding(0, 0), 3);
         Due.is("inside(0, 0, 1)", x.inside(0, 0, 1), 1);
@@ -185,7 +177,7 @@ final class QuestionTest {
         x.move(-50, -50);
         x.line(50, -50);
         x.line(50, 50);
-        // The long side leads along x = y: centres on it are not inside, those with u > v are.
+        // The long side falls along x = y. It takes the right side's 1 away where u < v, but not on itself.
         Due.is("winding(3, 3)", x.winding(3, 3), 1);
         Due.is("winding(4, 3)", x.winding(4, 3), 1);
         Due.is("winding(3, 4)", x.winding(3, 4), 0);
@@ -194,7 +186,7 @@ final class QuestionTest {
 
     private static void clipped() {
         PagePainter x = new PagePainter();
-        addBox(x, 2, 4, 8, 6);
+        Shapes.box(x, 2, 4, 8, 6);
         x.clip(0);
         Due.is("clipped(1, 2)", x.clipped(1, 2), 1);
         Due.is("clipped(3, 2)", x.clipped(3, 2), 1);
@@ -209,7 +201,7 @@ final class QuestionTest {
 
     private static void questionsChangeNothing() {
         PagePainter x = new PagePainter();
-        addBox(x, 0, 0, 8, 8);
+        Shapes.box(x, 0, 0, 8, 8);
         x.fill(0);
         for (int turn = 0; turn < 2; turn++) {
             Due.is("pixel(1, 1)", x.pixel(1, 1), 1);

@@ -21,20 +21,6 @@ final class StateTest {
         Due.end();
     }
 
-    private static PagePainter withSquare(int from, int to) {
-        PagePainter x = new PagePainter();
-        addSquare(x, from, to);
-        return x;
-    }
-
-    private static void addSquare(PagePainter x, int from, int to) {
-        x.move(from, from);
-        x.line(to, from);
-        x.line(to, to);
-        x.line(from, to);
-        x.close();
-    }
-
     private static void newObject() {
         PagePainter x = new PagePainter();
         Due.matrixIs("new", x, 1, 0, 0, 1, 0, 0);
@@ -55,7 +41,7 @@ final class StateTest {
     }
 
     private static void newObjectPaintsWithColourOneAndModeZero() {
-        PagePainter x = withSquare(0, 4);
+        PagePainter x = Shapes.withSquare(0, 4);
         Due.is("first fill(0)", x.fill(0), 4);
         Due.is("count(1)", x.count(1), 4);
         Due.is("same fill(0)", x.fill(0), 0);
@@ -65,11 +51,11 @@ final class StateTest {
     private static void paint() {
         for (int colour = 0; colour <= 7; colour++) {
             for (int mode = 0; mode <= 2; mode++) {
-                PagePainter x = withSquare(0, 4);
+                PagePainter x = Shapes.withSquare(0, 4);
                 x.paint(3, 0);
                 x.fill(0);
                 x.drop();
-                addSquare(x, 0, 8);
+                Shapes.square(x, 0, 8);
                 Due.is("paint(" + colour + ", " + mode + ")", x.paint(colour, mode), 1);
                 x.fill(0);
                 int onThree = mode == 0 ? colour : mode == 1 ? 3 ^ colour : 3;
@@ -80,7 +66,7 @@ final class StateTest {
     }
 
     private static void paintRefused() {
-        PagePainter x = withSquare(0, 4);
+        PagePainter x = Shapes.withSquare(0, 4);
         x.paint(5, 1);
         Due.is("paint(-1, 0)", x.paint(-1, 0), -1);
         Due.is("paint(8, 0)", x.paint(8, 0), -1);
@@ -235,7 +221,7 @@ final class StateTest {
     }
 
     private static void restoreBringsBackTheWholeState() {
-        PagePainter x = withSquare(0, 8);
+        PagePainter x = Shapes.withSquare(0, 8);
         x.shift(1, 2);
         x.paint(6, 1);
         x.clip(0);
@@ -262,7 +248,7 @@ final class StateTest {
     private static void restoreLeavesPageAndPath() {
         PagePainter x = new PagePainter();
         x.save();
-        addSquare(x, 0, 4);
+        Shapes.square(x, 0, 4);
         x.fill(0);
         x.restore();
         Due.is("page after restore", x.count(1), 4);
@@ -277,7 +263,7 @@ final class StateTest {
             x.paint(n, 0);
             x.shift(n, -n);
             x.drop();
-            addSquare(x, 0, 32 - 4 * n);
+            Shapes.square(x, 0, 32 - 4 * n);
             x.clip(0);
             x.save();
         }
