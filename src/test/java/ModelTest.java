@@ -4,8 +4,8 @@ final class ModelTest {
     /** What an object is made for; the last of them are the questions about everything small. */
     private static final int CALLS = 512;
     private static final int LAST_QUESTIONS = 38;
+    private static final Numbers NUMBERS = new Numbers(20261115L);
 
-    private static long seed = 20261115L;
     private static PagePainter program;
     private static Model model;
     private static int run;
@@ -25,14 +25,12 @@ final class ModelTest {
         Due.end();
     }
 
-    /** A fixed sequence of numbers from 0 to bound - 1. */
     private static int next(int bound) {
-        seed = seed * 6364136223846793005L + 1442695040888963407L;
-        return (int) ((seed >>> 33) % bound);
+        return NUMBERS.next(bound);
     }
 
     private static int between(int low, int high) {
-        return low + next(high - low + 1);
+        return NUMBERS.between(low, high);
     }
 
     /** Mostly a number from low to high, at times one just outside or far outside. */
@@ -116,7 +114,8 @@ final class ModelTest {
                 }
             }
             case 5 -> due("undo()", program.undo(), model.undo());
-            default -> due("paint(" + colour + ", " + mode + ")", program.paint(colour, mode), model.paint(colour, mode));
+            default -> due("paint(" + colour + ", " + mode + ")",
+                    program.paint(colour, mode), model.paint(colour, mode));
         }
     }
 

@@ -365,7 +365,7 @@ final class PaintBoundsTest {
         Due.is("pixel(10, 10)", behind.pixel(10, 10), 1);
     }
 
-    /** "by mode 0 the state's colour; by mode 1 the bitwise exclusive or ...; by mode 2 ... if theirs is 0, else theirs" */
+    /** "by mode 0 the state's colour; by mode 1 the ... exclusive or ...; by mode 2 ... if theirs is 0, else theirs" */
     private static void modes() {
         for (int old = 0; old <= 7; old++) {
             for (int colour = 0; colour <= 7; colour++) {
